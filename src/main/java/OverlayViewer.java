@@ -712,6 +712,9 @@ public final class OverlayViewer {
         }
 
         void addLayer() {
+            if (layerCount >= LAYERS_MOST) {
+                return;
+            }
             if (layers[layerCount] == null) {
                 layers[layerCount] = new Layer();
             }
@@ -766,8 +769,11 @@ public final class OverlayViewer {
             return width;
         }
 
-        /** One WRITE of the lowest BYTES of a long; who calls has seen that the PLACES are there. */
+        /** One WRITE of the lowest BYTES of a long. */
         void write(int from, int width, long w, boolean big) {
+            if (from < 0 || width > WIDTH_MOST || from + width > length) {
+                return;
+            }
             Layer top = top();
             if (top != null) {
                 top.keep(from, width);
