@@ -17,22 +17,6 @@ public final class DescriptionsTest {
         Check.end();
     }
 
-    /** The text up to the mark ^ is fine; the FAULT's TOKEN begins at it. */
-    private static void fault(int number, String text) {
-        int place = text.indexOf('^');
-        OverlayViewer x = new OverlayViewer();
-        Check.due(text, Check.describe(x, text.replace("^", "")), -10 - place);
-        Check.due("wrong of " + text, x.wrong(), number);
-        Check.due("the tape is empty", x.count(1), 0);
-    }
-
-    private static void good(int structures, String text) {
-        OverlayViewer x = new OverlayViewer();
-        Check.due(text, Check.describe(x, text), structures);
-        Check.due("wrong of " + text, x.wrong(), 0);
-        Check.due("count(2) of " + text, x.count(2), Math.max(0, structures));
-    }
-
     private static void feedAndCut() {
         OverlayViewer x = new OverlayViewer();
         Check.due("feed", x.feed(0x6162, 2), 2);
@@ -62,220 +46,212 @@ public final class DescriptionsTest {
     }
 
     private static void goodOnes() {
-        good(0, "enum e{a=1}");
-        good(1, "struct s{}");
-        good(2, "struct s{}\nstruct\n t { }");
-        good(2, "enum e{x=1,y=-2,z=0xff}struct s0{u1 n is e;u1b a[n];bits u2 b{p:3,q:5};text t[2];text w until 0;}"
+        Check.good(0, "enum e{a=1}");
+        Check.good(1, "struct s{}");
+        Check.good(2, "struct s{}\nstruct\n t { }");
+        Check.good(2, "enum e{x=1,y=-2,z=0xff}struct s0{u1 n is e;u1b a[n];bits u2 b{p:3,q:5};text t[2];text w until 0;}"
                 + "struct t1{magic m=1 * 0x0f;s0 z;s0 y[2];union u by here{1:s0;-2:s0;else s0;};u2 o;}");
-        good(1, "struct s{to s w by u1 from begin times 2;to s v by s8b;sum roll u2 c of 0,here-begin;pad 64;if 1:pad 1;}");
-        good(1, "struct s{u1 n;if n=1 and not n or n<2:u1 m[(n+1)*2-3/n%2&7];}");
-        good(1, "struct s{bits u1 b{p:3,q:5};u1 a[p+q];sum add u1 c of 0,1;to s w by u1;u1 d[c+w];}");
-        good(2, "struct s{u1 s;}struct t{s t;u1 u9;u1 s9b;u1 u1c;u1 enumx;}");
+        Check.good(1, "struct s{to s w by u1 from begin times 2;to s v by s8b;sum roll u2 c of 0,here-begin;pad 64;if 1:pad 1;}");
+        Check.good(1, "struct s{u1 n;if n=1 and not n or n<2:u1 m[(n+1)*2-3/n%2&7];}");
+        Check.good(1, "struct s{bits u1 b{p:3,q:5};u1 a[p+q];sum add u1 c of 0,1;to s w by u1;u1 d[c+w];}");
+        Check.good(2, "struct s{u1 s;}struct t{s t;u1 u9;u1 s9b;u1 u1c;u1 enumx;}");
     }
 
     private static void tokens() {
-        fault(1, "struct s{u1 ^A;}");
-        fault(1, "struct s{u1 ^abcdefghi;}");
-        good(1, "struct abcdefgh{u1 a2345678;}");
-        fault(1, "struct s{pad ^1a;}");
-        fault(1, "struct s{pad ^0x;}");
-        fault(1, "struct s{pad ^0xg;}");
-        fault(1, "struct s{magic m=^0x123456789;}");
-        fault(1, "enum e{a=^1234567890}");
-        good(0, "enum e{a=123456789,b=0xffffffff,c=000000001}");
-        fault(1, "^_");
-        fault(1, "^\t");
-        fault(1, "struct s{}^\r");
-        fault(1, "struct s{pad 2^.5;}");
-        fault(1, "struct s{u1 a^!;}");
-        fault(1, "struct s{pad 1^X1;}");
-        fault(1, "^\u00e9");
+        Check.fault(1, "struct s{u1 ^A;}");
+        Check.fault(1, "struct s{u1 ^abcdefghi;}");
+        Check.good(1, "struct abcdefgh{u1 a2345678;}");
+        Check.fault(1, "struct s{pad ^1a;}");
+        Check.fault(1, "struct s{pad ^0x;}");
+        Check.fault(1, "struct s{pad ^0xg;}");
+        Check.fault(1, "struct s{magic m=^0x123456789;}");
+        Check.fault(1, "enum e{a=^1234567890}");
+        Check.good(0, "enum e{a=123456789,b=0xffffffff,c=000000001}");
+        Check.fault(1, "^_");
+        Check.fault(1, "^\t");
+        Check.fault(1, "struct s{}^\r");
+        Check.fault(1, "struct s{pad 2^.5;}");
+        Check.fault(1, "struct s{u1 a^!;}");
+        Check.fault(1, "struct s{pad 1^X1;}");
+        Check.fault(1, "^\u00e9");
     }
 
     private static void misplaced() {
-        fault(2, "^");
-        fault(2, "  \n ^");
-        fault(2, "^s");
-        fault(2, "struct s{}^;");
-        fault(2, "struct ^u1{}");
-        fault(2, "struct ^if{}");
-        fault(2, "struct s^;");
-        fault(2, "struct s{^");
-        fault(2, "struct s{u1 a^");
-        fault(2, "struct s{u1 a^}");
-        fault(2, "struct s{^;}");
-        fault(2, "struct s{^enum e{a=1}}");
-        fault(2, "enum e{^}");
-        fault(2, "enum e{a^}");
-        fault(2, "enum e{a=^b}");
-        fault(2, "enum e{a=-^-1}");
-        fault(2, "enum e{a=1,^}");
-        fault(2, "enum e{a=1^;}");
-        fault(2, "struct s{u1 ^3;}");
-        fault(2, "struct s{u1 a is ^3;}");
-        fault(2, "enum e{a=1}struct s{u1 a is e^[3];}");
-        fault(2, "struct s{u1 a[3]^is e;}");
-        fault(2, "struct s{u1 a[3^;}");
-        fault(2, "struct s{u1 a[^;}");
-        fault(2, "struct t{}struct s{t a ^is e;}");
-        fault(2, "struct s{bits ^b{p:1};}");
-        fault(2, "struct s{bits u1 b{^};}");
-        fault(2, "struct s{bits u1 b{p^=1};}");
-        fault(2, "struct s{bits u1 b{p:1,^};}");
-        fault(2, "struct s{text t^;}");
-        fault(2, "struct s{text t[^];}");
-        fault(2, "struct s{text t until ^a;}");
-        fault(2, "struct s{union u ^{1:s;};}");
-        fault(2, "struct s{union u by 1{^};}");
-        fault(2, "struct t{}struct s{union u by 1{^else t;};}");
-        fault(2, "struct t{}struct s{union u by 1{1:t;else t;^2:t;};}");
-        fault(2, "struct t{}struct s{union u by 1{1:t^}}");
-        fault(2, "struct t{}struct s{union u by 1{1:t;}^}");
-        fault(2, "struct s{to s ^by u1;}");
-        fault(2, "struct s{to s a^;}");
-        fault(2, "struct s{to s a by ^b;}");
-        fault(2, "struct s{to s a by u1 times 2 ^from 1;}");
-        fault(2, "struct s{pad ^a;}");
-        fault(2, "struct s{magic m^;}");
-        fault(2, "struct s{magic m=^;}");
-        fault(2, "struct s{magic m=1^,2;}");
-        fault(2, "struct s{sum ^u1 c of 0,1;}");
-        fault(2, "struct s{sum add ^c of 0,1;}");
-        fault(2, "struct s{sum add u1 c ^0,1;}");
-        fault(2, "struct s{sum add u1 c of 0^;}");
-        fault(2, "struct s{if 1 ^u1 a;}");
-        fault(2, "struct s{if ^:u1 a;}");
-        fault(2, "struct s{if 1:^if 1:u1 a;}");
-        fault(2, "struct s{if 1=2^=3:u1 a;}");
-        fault(2, "struct s{if (1^:u1 a;}");
-        fault(2, "struct s{if 1+^+1:u1 a;}");
-        fault(2, "struct s{if 1 ^not 1:u1 a;}");
-        fault(2, "struct s{if 1 ^2:u1 a;}");
-        good(1, "struct s{if 1=2 and 3<4 or (1=1)=1:u1 a;if 1+-1--1:u1 b;}");
+        Check.fault(2, "^");
+        Check.fault(2, "  \n ^");
+        Check.fault(2, "^s");
+        Check.fault(2, "struct s{}^;");
+        Check.fault(2, "struct ^u1{}");
+        Check.fault(2, "struct ^if{}");
+        Check.fault(2, "struct s^;");
+        Check.fault(2, "struct s{^");
+        Check.fault(2, "struct s{u1 a^");
+        Check.fault(2, "struct s{u1 a^}");
+        Check.fault(2, "struct s{^;}");
+        Check.fault(2, "struct s{^enum e{a=1}}");
+        Check.fault(2, "enum e{^}");
+        Check.fault(2, "enum e{a^}");
+        Check.fault(2, "enum e{a=^b}");
+        Check.fault(2, "enum e{a=-^-1}");
+        Check.fault(2, "enum e{a=1,^}");
+        Check.fault(2, "enum e{a=1^;}");
+        Check.fault(2, "struct s{u1 ^3;}");
+        Check.fault(2, "struct s{u1 a is ^3;}");
+        Check.fault(2, "enum e{a=1}struct s{u1 a is e^[3];}");
+        Check.fault(2, "struct s{u1 a[3]^is e;}");
+        Check.fault(2, "struct s{u1 a[3^;}");
+        Check.fault(2, "struct s{u1 a[^;}");
+        Check.fault(2, "struct t{}struct s{t a ^is e;}");
+        Check.fault(2, "struct s{bits ^b{p:1};}");
+        Check.fault(2, "struct s{bits u1 b{^};}");
+        Check.fault(2, "struct s{bits u1 b{p^=1};}");
+        Check.fault(2, "struct s{bits u1 b{p:1,^};}");
+        Check.fault(2, "struct s{text t^;}");
+        Check.fault(2, "struct s{text t[^];}");
+        Check.fault(2, "struct s{text t until ^a;}");
+        Check.fault(2, "struct s{union u ^{1:s;};}");
+        Check.fault(2, "struct s{union u by 1{^};}");
+        Check.fault(2, "struct t{}struct s{union u by 1{^else t;};}");
+        Check.fault(2, "struct t{}struct s{union u by 1{1:t;else t;^2:t;};}");
+        Check.fault(2, "struct t{}struct s{union u by 1{1:t^}}");
+        Check.fault(2, "struct t{}struct s{union u by 1{1:t;}^}");
+        Check.fault(2, "struct s{to s ^by u1;}");
+        Check.fault(2, "struct s{to s a^;}");
+        Check.fault(2, "struct s{to s a by ^b;}");
+        Check.fault(2, "struct s{to s a by u1 times 2 ^from 1;}");
+        Check.fault(2, "struct s{pad ^a;}");
+        Check.fault(2, "struct s{magic m^;}");
+        Check.fault(2, "struct s{magic m=^;}");
+        Check.fault(2, "struct s{magic m=1^,2;}");
+        Check.fault(2, "struct s{sum ^u1 c of 0,1;}");
+        Check.fault(2, "struct s{sum add ^c of 0,1;}");
+        Check.fault(2, "struct s{sum add u1 c ^0,1;}");
+        Check.fault(2, "struct s{sum add u1 c of 0^;}");
+        Check.fault(2, "struct s{if 1 ^u1 a;}");
+        Check.fault(2, "struct s{if ^:u1 a;}");
+        Check.fault(2, "struct s{if 1:^if 1:u1 a;}");
+        Check.fault(2, "struct s{if 1=2^=3:u1 a;}");
+        Check.fault(2, "struct s{if (1^:u1 a;}");
+        Check.fault(2, "struct s{if 1+^+1:u1 a;}");
+        Check.fault(2, "struct s{if 1 ^not 1:u1 a;}");
+        Check.fault(2, "struct s{if 1 ^2:u1 a;}");
+        Check.good(1, "struct s{if 1=2 and 3<4 or (1=1)=1:u1 a;if 1+-1--1:u1 b;}");
     }
 
     private static void names() {
-        fault(3, "enum e{a=1}enum ^e{a=1}");
-        fault(3, "enum e{a=1}struct ^e{}");
-        fault(3, "struct s{}enum ^s{a=1}");
-        fault(3, "struct s{}struct ^s{}");
-        fault(3, "enum e{a=1,^a=2}");
-        good(0, "enum e{a=1,b=1}enum f{a=1,e=2}");
-        fault(3, "struct s{u1 a;u1 ^a;}");
-        fault(3, "struct s{u1 a;bits u1 b{^a:1};}");
-        fault(3, "struct s{bits u1 b{^b:1};}");
-        fault(3, "struct s{bits u1 b{a:1,^a:1};}");
-        fault(3, "struct s{bits u1 b{a:1};text ^a[1];}");
-        fault(3, "struct s{u1 a;magic ^a=1;}");
-        fault(3, "struct s{u1 a;to s ^a by u1;}");
-        fault(3, "struct s{u1 a;sum add u1 ^a of 0,1;}");
-        fault(3, "struct t{}struct s{u1 a;t ^a;}");
-        fault(3, "struct t{}struct s{u1 a;union ^a by 1{1:t;};}");
-        fault(4, "struct s{u1 a is ^e;}");
-        fault(4, "struct t{}struct s{u1 a is ^t;}");
-        fault(4, "struct s{^t a;}struct t{}");
-        fault(4, "struct s{^s a;}");
-        fault(4, "enum e{a=1}struct s{^e a;}");
-        fault(4, "struct s{if 1:^t a;}");
-        fault(4, "struct s{u1 n;union u by n{1:^s;}}");
-        fault(4, "struct t{}struct s{union u by 1{1:t;else ^s;};}");
-        fault(4, "struct s{if ^a:u1 a;}");
-        fault(4, "struct s{u1 a[^a];}");
-        fault(4, "struct s{u1 a[2];u1 b[^a];}");
-        fault(4, "struct s{text t[2];u1 b[^t];}");
-        fault(4, "struct t{}struct s{t a;u1 b[^a];}");
-        fault(4, "struct s{bits u1 b{p:1};u1 c[p];u1 d[^b];}");
-        fault(4, "struct s{magic m=1;u1 b[^m];}");
-        fault(4, "struct s{u1 b[^c];u1 c;}");
-        fault(4, "struct t{u1 a;}struct s{t t;u1 b[^a];}");
+        Check.fault(3, "enum e{a=1}enum ^e{a=1}");
+        Check.fault(3, "enum e{a=1}struct ^e{}");
+        Check.fault(3, "struct s{}enum ^s{a=1}");
+        Check.fault(3, "struct s{}struct ^s{}");
+        Check.fault(3, "enum e{a=1,^a=2}");
+        Check.good(0, "enum e{a=1,b=1}enum f{a=1,e=2}");
+        Check.fault(3, "struct s{u1 a;u1 ^a;}");
+        Check.fault(3, "struct s{u1 a;bits u1 b{^a:1};}");
+        Check.fault(3, "struct s{bits u1 b{^b:1};}");
+        Check.fault(3, "struct s{bits u1 b{a:1,^a:1};}");
+        Check.fault(3, "struct s{bits u1 b{a:1};text ^a[1];}");
+        Check.fault(3, "struct s{u1 a;magic ^a=1;}");
+        Check.fault(3, "struct s{u1 a;to s ^a by u1;}");
+        Check.fault(3, "struct s{u1 a;sum add u1 ^a of 0,1;}");
+        Check.fault(3, "struct t{}struct s{u1 a;t ^a;}");
+        Check.fault(3, "struct t{}struct s{u1 a;union ^a by 1{1:t;};}");
+        Check.fault(4, "struct s{u1 a is ^e;}");
+        Check.fault(4, "struct t{}struct s{u1 a is ^t;}");
+        Check.fault(4, "struct s{^t a;}struct t{}");
+        Check.fault(4, "struct s{^s a;}");
+        Check.fault(4, "enum e{a=1}struct s{^e a;}");
+        Check.fault(4, "struct s{if 1:^t a;}");
+        Check.fault(4, "struct s{u1 n;union u by n{1:^s;}}");
+        Check.fault(4, "struct t{}struct s{union u by 1{1:t;else ^s;};}");
+        Check.fault(4, "struct s{if ^a:u1 a;}");
+        Check.fault(4, "struct s{u1 a[^a];}");
+        Check.fault(4, "struct s{u1 a[2];u1 b[^a];}");
+        Check.fault(4, "struct s{text t[2];u1 b[^t];}");
+        Check.fault(4, "struct t{}struct s{t a;u1 b[^a];}");
+        Check.fault(4, "struct s{bits u1 b{p:1};u1 c[p];u1 d[^b];}");
+        Check.fault(4, "struct s{magic m=1;u1 b[^m];}");
+        Check.fault(4, "struct s{u1 b[^c];u1 c;}");
+        Check.fault(4, "struct t{u1 a;}struct s{t t;u1 b[^a];}");
         // the field that is being told is not one told before
-        fault(4, "struct s{sum add u1 c of 0,^c;}");
-        fault(4, "struct s{to s w by u1 from ^w;}");
+        Check.fault(4, "struct s{sum add u1 c of 0,^c;}");
+        Check.fault(4, "struct s{to s w by u1 from ^w;}");
     }
 
     private static void toNames() {
-        good(2, "struct s{to t a by u1;to s b by u1;}struct t{}");
-        fault(4, "struct s{to ^t a by u1;}");
-        fault(4, "struct s{to ^e a by u1;to f b by u1;}enum e{a=1}");
-        fault(2, "struct s{to t a by u1;}struct ^;");
-        fault(1, "struct s{to t a by u1;}^#");
-        fault(2, "struct s{to t a by u1;}struct q{^");
-        fault(4, "struct s{to s a by u1;}struct q{to ^t b by u1;to z c by u1;}");
-        fault(3, "struct s{to t a by u1;u1 ^a;}");
-    }
-
-    private static String times(int n, String piece) {
-        StringBuilder all = new StringBuilder();
-        for (int i = 0; i < n; i++) {
-            all.append(piece.replace("#", Integer.toString(i)));
-        }
-        return all.toString();
+        Check.good(2, "struct s{to t a by u1;to s b by u1;}struct t{}");
+        Check.fault(4, "struct s{to ^t a by u1;}");
+        Check.fault(4, "struct s{to ^e a by u1;to f b by u1;}enum e{a=1}");
+        Check.fault(2, "struct s{to t a by u1;}struct ^;");
+        Check.fault(1, "struct s{to t a by u1;}^#");
+        Check.fault(2, "struct s{to t a by u1;}struct q{^");
+        Check.fault(4, "struct s{to s a by u1;}struct q{to ^t b by u1;to z c by u1;}");
+        Check.fault(3, "struct s{to t a by u1;u1 ^a;}");
     }
 
     private static void tooMuch() {
-        good(20, times(20, "struct a#{}"));
-        fault(5, times(20, "struct a#{}") + "^struct b{}");
-        fault(5, times(20, "struct a#{}") + "^struct 1");
-        good(0, times(8, "enum e#{a=1}"));
-        fault(5, times(8, "enum e#{a=1}") + "^enum b{a=1}");
-        good(1, "struct s{" + times(14, "u1 a#;") + "}");
-        fault(5, "struct s{" + times(14, "u1 a#;") + "^u1 b;}");
-        fault(5, "struct s{" + times(14, "u1 a#;") + "^if 1:u1 b;}");
-        fault(5, "struct t{}struct s{" + times(14, "pad 1;") + "^t b;}");
-        fault(4, "struct s{" + times(14, "pad 1;") + "^t b;}");
-        fault(2, "struct s{" + times(14, "pad 1;") + "^1;}");
-        good(0, "enum e{z=0" + times(9, ",a#=#") + "}");
-        fault(5, "enum e{z=0" + times(9, ",a#=#") + ",^b=1}");
-        fault(3, "enum e{z=0" + times(9, ",a#=#") + ",^z=1}");
-        fault(2, "enum e{z=0" + times(9, ",a#=#") + ",^1}");
-        good(1, "struct s{bits u2 b{z:1" + times(11, ",a#:1") + "};}");
-        fault(5, "struct s{bits u2 b{z:1" + times(11, ",a#:1") + ",^c:1};}");
-        fault(3, "struct s{bits u2 b{z:1" + times(11, ",a#:1") + ",^z:1};}");
-        good(2, "struct t{}struct s{union u by 1{" + times(8, "#:t;") + "else t;};}");
-        fault(5, "struct t{}struct s{union u by 1{" + times(8, "#:t;") + "^9:t;};}");
-        fault(5, "struct t{}struct s{union u by 1{" + times(8, "#:t;") + "^-9:t;};}");
-        good(1, "struct s{magic m=" + times(8, "* 1 ") + ";}");
-        fault(5, "struct s{magic m=" + times(8, "* 1 ") + "^1;}");
-        fault(5, "struct s{magic m=" + times(16, "*") + "^*;}");
+        Check.good(20, Check.times(20, "struct a#{}"));
+        Check.fault(5, Check.times(20, "struct a#{}") + "^struct b{}");
+        Check.fault(5, Check.times(20, "struct a#{}") + "^struct 1");
+        Check.good(0, Check.times(8, "enum e#{a=1}"));
+        Check.fault(5, Check.times(8, "enum e#{a=1}") + "^enum b{a=1}");
+        Check.good(1, "struct s{" + Check.times(14, "u1 a#;") + "}");
+        Check.fault(5, "struct s{" + Check.times(14, "u1 a#;") + "^u1 b;}");
+        Check.fault(5, "struct s{" + Check.times(14, "u1 a#;") + "^if 1:u1 b;}");
+        Check.fault(5, "struct t{}struct s{" + Check.times(14, "pad 1;") + "^t b;}");
+        Check.fault(4, "struct s{" + Check.times(14, "pad 1;") + "^t b;}");
+        Check.fault(2, "struct s{" + Check.times(14, "pad 1;") + "^1;}");
+        Check.good(0, "enum e{z=0" + Check.times(9, ",a#=#") + "}");
+        Check.fault(5, "enum e{z=0" + Check.times(9, ",a#=#") + ",^b=1}");
+        Check.fault(3, "enum e{z=0" + Check.times(9, ",a#=#") + ",^z=1}");
+        Check.fault(2, "enum e{z=0" + Check.times(9, ",a#=#") + ",^1}");
+        Check.good(1, "struct s{bits u2 b{z:1" + Check.times(11, ",a#:1") + "};}");
+        Check.fault(5, "struct s{bits u2 b{z:1" + Check.times(11, ",a#:1") + ",^c:1};}");
+        Check.fault(3, "struct s{bits u2 b{z:1" + Check.times(11, ",a#:1") + ",^z:1};}");
+        Check.good(2, "struct t{}struct s{union u by 1{" + Check.times(8, "#:t;") + "else t;};}");
+        Check.fault(5, "struct t{}struct s{union u by 1{" + Check.times(8, "#:t;") + "^9:t;};}");
+        Check.fault(5, "struct t{}struct s{union u by 1{" + Check.times(8, "#:t;") + "^-9:t;};}");
+        Check.good(1, "struct s{magic m=" + Check.times(8, "* 1 ") + ";}");
+        Check.fault(5, "struct s{magic m=" + Check.times(8, "* 1 ") + "^1;}");
+        Check.fault(5, "struct s{magic m=" + Check.times(16, "*") + "^*;}");
     }
 
     private static void numbers() {
-        fault(5, "struct s{bits u1 b{p:^0};}");
-        fault(5, "struct s{bits u1 b{p:^9};}");
-        fault(5, "struct s{bits u1 b{p:3,q:^6};}");
-        fault(5, "struct s{bits u1 b{p:8,q:^1};}");
-        fault(5, "struct s{bits u8 b{p:^65};}");
-        good(1, "struct s{bits u8 b{p:64};bits s1b c{q:3,r:5};}");
-        fault(5, "struct s{text t until ^256;}");
-        good(1, "struct s{text t until 255;text w until 0;}");
-        fault(5, "struct s{magic m=1 ^256;}");
-        good(1, "struct s{magic m=0 255;}");
-        fault(5, "struct s{pad ^0;}");
-        fault(5, "struct s{pad ^65;}");
-        fault(5, "struct s{to s a by u1 times ^0;}");
-        fault(5, "struct s{to s a by u1 times ^4097;}");
-        good(1, "struct s{to s a by u1 times 4096;to s b by u1 from 3 times 1;}");
+        Check.fault(5, "struct s{bits u1 b{p:^0};}");
+        Check.fault(5, "struct s{bits u1 b{p:^9};}");
+        Check.fault(5, "struct s{bits u1 b{p:3,q:^6};}");
+        Check.fault(5, "struct s{bits u1 b{p:8,q:^1};}");
+        Check.fault(5, "struct s{bits u8 b{p:^65};}");
+        Check.good(1, "struct s{bits u8 b{p:64};bits s1b c{q:3,r:5};}");
+        Check.fault(5, "struct s{text t until ^256;}");
+        Check.good(1, "struct s{text t until 255;text w until 0;}");
+        Check.fault(5, "struct s{magic m=1 ^256;}");
+        Check.good(1, "struct s{magic m=0 255;}");
+        Check.fault(5, "struct s{pad ^0;}");
+        Check.fault(5, "struct s{pad ^65;}");
+        Check.fault(5, "struct s{to s a by u1 times ^0;}");
+        Check.fault(5, "struct s{to s a by u1 times ^4097;}");
+        Check.good(1, "struct s{to s a by u1 times 4096;to s b by u1 from 3 times 1;}");
     }
 
     private static void nests() {
-        good(1, "struct s{u1 a[" + times(15, "(") + "1" + times(15, ")") + "];}");
-        fault(5, "struct s{u1 a[" + times(15, "(") + "^(1");
-        good(1, "struct s{u1 a[" + times(15, "-") + "1];}");
-        fault(5, "struct s{u1 a[" + times(15, "-") + "^-1];}");
-        fault(5, "struct s{u1 a[" + times(15, "not ") + "^not 1];}");
-        fault(5, "struct s{u1 a[" + times(5, "-(not ") + "^(1)];}");
-        good(1, "struct s{u1 a[" + times(14, "(") + "-1+-1-(2)" + times(14, ")") + "];}");
-        good(1, "struct s{u1 a[" + times(40, "-1+(2)*") + "1];}");
-        fault(2, "struct s{u1 a[" + times(15, "(") + "^)];}");
+        Check.good(1, "struct s{u1 a[" + Check.times(15, "(") + "1" + Check.times(15, ")") + "];}");
+        Check.fault(5, "struct s{u1 a[" + Check.times(15, "(") + "^(1");
+        Check.good(1, "struct s{u1 a[" + Check.times(15, "-") + "1];}");
+        Check.fault(5, "struct s{u1 a[" + Check.times(15, "-") + "^-1];}");
+        Check.fault(5, "struct s{u1 a[" + Check.times(15, "not ") + "^not 1];}");
+        Check.fault(5, "struct s{u1 a[" + Check.times(5, "-(not ") + "^(1)];}");
+        Check.good(1, "struct s{u1 a[" + Check.times(14, "(") + "-1+-1-(2)" + Check.times(14, ")") + "];}");
+        Check.good(1, "struct s{u1 a[" + Check.times(40, "-1+(2)*") + "1];}");
+        Check.fault(2, "struct s{u1 a[" + Check.times(15, "(") + "^)];}");
     }
 
     private static void arraysWithoutExpr() {
-        good(1, "struct s{u1 a[];u8b b[];}");
-        good(2, "struct t{u1 a;}struct s{t a[];}");
-        fault(6, "struct t{}struct s{t a[^];}");
-        fault(6, "struct t{text x until 0;}struct s{t a[^];}");
-        fault(6, "struct t{u1 a[];}struct s{t a[ ^];}");
-        good(2, "struct t{u1 a[];}struct s{t a[3];}");
+        Check.good(1, "struct s{u1 a[];u8b b[];}");
+        Check.good(2, "struct t{u1 a;}struct s{t a[];}");
+        Check.fault(6, "struct t{}struct s{t a[^];}");
+        Check.fault(6, "struct t{text x until 0;}struct s{t a[^];}");
+        Check.fault(6, "struct t{u1 a[];}struct s{t a[ ^];}");
+        Check.good(2, "struct t{u1 a[];}struct s{t a[3];}");
     }
 
     private static void whatAFaultLeaves() {
