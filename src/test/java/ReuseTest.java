@@ -6,17 +6,23 @@ public final class ReuseTest {
     private static final String[] TEXTS = {
         "enum e{a=1,b=2,c=3}struct t{u1 v;}struct s{u1 n is e;bits u1 f{p:1,q:2,r:5};t x[n];to s y by u1 from 1 times 2;text z[1];}",
         "struct s{to s a by u1;magic m=1 * 0;if 0:u1 b;sum roll u2b c of 0,here;u8 d;}",
-        "enum e{z=9}enum f{a=2}struct a{}struct b{u1 a;}struct s{union u by 2{1:a;2:b;else a;};text t until 0;s2b w;u1 x is f;}",
+        "enum e{z=9}enum f{a=2}struct a{}struct b{u1 a;}struct s{u1 y is e;union u by 2{1:a;2:b;else a;};text t until 0;s2b w;u1 x is f;}",
         "struct s{if 1/0:u1 a;s1 b;u1 c[b-2];text d[99];pad 4;bits u2 g{h:16};u1 k;}",
         "struct q{to r z by u1;}struct r{q v;}struct s{u1 a;u1 b;u1 c;u1 d;u1 e;u1 f;u1 g;u1 h;u1 i;u1 j;u1 k;u1 l;u1 m;u1 n;}",
-        "enum e{a=0,b=0,c=1}struct s{u2 a is e;s8b b;u4 c[];}"};
+        "enum e{a=0,b=0,c=1}struct s{u2 a is e;s8b b;u4 c[];}",
+        "struct s{magic m=2 1;}",
+        "struct s{}"};
     /** Texts with a FAULT, far behind. */
     private static final String[] FAULTY = {
         "enum e{k=7,l=8}struct z{u1 a;u1 b;magic c=1 2 3;}struct s{bits u4 b{i:9,j:9};to z y by s1 times 7;u1 c is k;}",
         "struct s{u1 a;text b[a];if a:u1 c;union d by a{1:s;};}"};
 
+    /** NAMES that some of these have, and some have not. */
+    private static final String[] NAMES = {"n", "a", "b", "p", "r"};
+
     public static void main(String[] args) {
         describedAnew();
+        longTextsBefore();
         faultsBetween();
         laidAnew();
         relaidAnew();
@@ -34,9 +40,12 @@ public final class ReuseTest {
         int nodes = x.faults(tree, 2);
         StringBuilder all = new StringBuilder().append(nodes).append(' ');
         // the first ones tell enough, and an object is good for 512 calls
-        for (int n = 0; n < Math.min(24, nodes); n++) {
+        for (int n = 0; n < Math.min(22, nodes); n++) {
             all.append(Check.node(x, tree, n)).append(' ').append((char) Math.max('-', x.letter(tree, n, 0, 0)));
             all.append((char) Math.max('-', x.letter(tree, n, 1, 0))).append(' ').append(x.kid(tree, n, 0)).append('|');
+        }
+        for (String name : NAMES) {
+            all.append(name).append(' ').append(Check.find(x, tree, name)).append(' ').append(Check.evaluate(x, tree, 0, name)).append(' ');
         }
         return all.append(x.faults(tree, 0)).append(' ').append(x.faults(tree, 1)).toString();
     }
@@ -80,6 +89,20 @@ public final class ReuseTest {
                 }
             }
         }
+    }
+
+    private static void longTextsBefore() {
+        Check.says("THE TAPE has at most 3000 bytes (each text has all of it anew)");
+        String text = "struct s{u1 n;u1 a[n+1" + "+0".repeat(20) + "];text b[n*2-1];}";
+        OverlayViewer x = withBytes();
+        Check.due("a long text with a fault", Check.describe(x, "struct s{text t[" + "1+".repeat(1492)), -10 - 3000);
+        Check.describe(x, text);
+        x.lay(0, 0, 0);
+        OverlayViewer y = withBytes();
+        Check.describe(y, text);
+        y.lay(0, 0, 0);
+        Check.due("a text behind it", Check.node(x, 0, 2) + Check.node(x, 0, 6), Check.node(y, 0, 2) + Check.node(y, 0, 6));
+        Check.due("size", x.size(0), Check.RANGE);
     }
 
     private static void faultsBetween() {
