@@ -342,7 +342,7 @@ public final class DescriptionBoundsTest {
         for (String field : new String[] {"if @:u1 a;", "u1 a[@];", "t a[@];", "text a[@];", "union a by @{1:t;};",
             "to t a by u1 from @;", "sum add u1 a of @,0;", "sum add u1 a of 0,@;", "sum add u1 a of @,@;"}) {
             Check.good(2, "struct t{u1 v;}struct s{" + field.replace("@", good) + "}");
-            Check.fault(5, "struct t{u1 v;}struct s{" + field.replaceFirst("@", bad.replace("^", "~")).replace("@", "1").replace("~", "^") + "}");
+            Check.fault(5, "struct t{u1 v;}struct s{" + field.replaceFirst("@", bad).replace("@", "1") + "}");
         }
     }
 

@@ -1,7 +1,7 @@
 /** Promises 30 to 32: set, put, fix; each sentence that names a bound. */
 public final class EditBoundsTest {
     private static final int[] NO_NUMBERS = {-1, 400, Integer.MIN_VALUE, Integer.MAX_VALUE};
-    /** One NODE of each KIND, those behind the 11th: a WHOLE in an ARRAY, its ARRAY's, and FAULT 1 at the end. */
+    /** A field of each KIND, of NODES 0 to 15; each test adds one that is OUTSIDE, NODE 16. */
     private static final String EACH_KIND = "struct t{u1 v;}struct s{u1 a;u1 b[1];bits u1 c{p:4};text d[1];union e by 1{1:t;};to t f by u1;"
             + "pad 1;magic g=0;sum add u1 h of 0,0;";
 

@@ -1,3 +1,4 @@
+import java.math.BigInteger;
 import java.util.ArrayList;
 import java.util.List;
 
@@ -323,12 +324,12 @@ public final class TextBoundsTest {
     }
 
     private static long read(int[] row, int width, boolean big, boolean signed) {
-        java.math.BigInteger all = java.math.BigInteger.ZERO;
+        BigInteger all = BigInteger.ZERO;
         for (int i = 0; i < width; i++) {
-            all = all.shiftLeft(8).add(java.math.BigInteger.valueOf(row[big ? i : width - 1 - i]));
+            all = all.shiftLeft(8).add(BigInteger.valueOf(row[big ? i : width - 1 - i]));
         }
         if ((signed || width == 8) && all.testBit(8 * width - 1)) {
-            all = all.subtract(java.math.BigInteger.ONE.shiftLeft(8 * width));
+            all = all.subtract(BigInteger.ONE.shiftLeft(8 * width));
         }
         return all.longValueExact();
     }
@@ -408,7 +409,7 @@ public final class TextBoundsTest {
 
     private static void numbersAreNoNames() {
         Check.says("2 it can't stand there (a NUMBER where a NAME is wanted)");
-        // 97 is the letter a, 24930 the letters ba or ab: what stands for a NAME inside must not be taken for one
+        // 97 is the letter a: a NUMBER is not to be taken for the NAME that has its bytes
         for (String number : new String[] {"97", "0x61", "1", "0"}) {
             Check.fault(2, "struct a{}struct ^" + number + "{}");
             Check.fault(2, "enum a{a=1}enum ^" + number + "{a=1}");
